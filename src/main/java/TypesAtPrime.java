@@ -13,7 +13,8 @@ public final class TypesAtPrime {
     private static final int DEEPEST = 6, LEVELS = 8, KNOT_ROOM = 24, SIDE_ROOM = 48, LEAF_ROOM = 16, SPELLING_ROOM = 80;
     private static final int DECIDED = 0, EXACT = 1, HARD = 2, TOO_DEEP = 3, LOST = 4;
     private static final int WORD_PRIME = 8, WORDS = 9;
-    private static final int[] PRIMES = {2, 3, 5, 7}, LIMITS = {28, 18, 12, 10};
+    private static final int[] PRIMES = {2, 3, 5, 7};
+    private static final int[] LIMITS = {28, 18, 12, 10};
 
     private final Numbers numbers;
     private final byte[] tape;
@@ -586,7 +587,7 @@ public final class TypesAtPrime {
                 keepRemainder(image, rest, degreeOf(rest));
             }
             // what is left has no factor of up to half its degree
-            if (degreeOf(rest) > 0) record(rest, degreeOf(rest));
+            if (degreeOf(rest) > 0) keep(rest, degreeOf(rest));
             return true;
         }
 
@@ -660,9 +661,9 @@ public final class TypesAtPrime {
             for (int k = 0; k < d; k++) numbers *= prime;
             for (int number = 0; number < numbers && degreeOf(common) > d; number++) {
                 writeCandidate(number, d);
-                if (splitOff(common, candidate, d)) record(candidate, d);
+                if (splitOff(common, candidate, d)) keep(candidate, d);
             }
-            if (degreeOf(common) == d) record(common, d);
+            if (degreeOf(common) == d) keep(common, d);
         }
 
         private void writeCandidate(int number, int d) {
@@ -673,7 +674,7 @@ public final class TypesAtPrime {
             }
         }
 
-        private void record(int[] row, int d) {
+        private void keep(int[] row, int d) {
             if (count < 0 || count >= POWERS) return;
             int i = count;
             count++;

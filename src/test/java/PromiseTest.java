@@ -267,7 +267,6 @@ public final class PromiseTest {
         due("by 7 to the 10", x.expansion(3, 3, 0, 0), 0);
         read(x, 4, "x");
         due("by x", x.expansion(0, 4, 0, 0), 282475249 - 27);
-        due("not monic", x.expansion(0, 1, 0, 0) >= 0 ? 1 : 0, 1);
         read(x, 4, "2*x");
         due("not monic", x.expansion(0, 4, 0, 0), NO);
         read(x, 4, "1");
@@ -605,6 +604,14 @@ public final class PromiseTest {
         due("downwards", x.shift(0, 1, 0, 0, 4), 4);
         dueItems(x, 0, 1, 2, 3, 4, 4);
         due("none of them", x.shift(0, 5, 1, 3, 0), 0);
+        due("the whole row", x.shift(1, 0, 0, 2, 3), 3);
+        dueItems(x, 0, 1, 2, 2, 3, 9);
+        x.sheet(3, 1, 40);
+        due("all room", x.shift(3, 0, 3, 0, 40), 40);
+        due("from all room", x.shift(0, 4, 3, 39, 1), 1);
+        due("last", x.item(3, 39), 9);
+        x.sheet(3, -1, 0);
+        fill(x, 0, 1, 1, 2, 3, 4, 4);
         for (int[] out : new int[][] {{-1, 0, 1}, {0, -1, 1}, {0, 0, -1}, {5, 0, 1}, {0, 3, 1}, {0, 0, 4}, {3, 0, 3}, {6, 0, 0}, {0, 4, 0}, {1, 0, Integer.MAX_VALUE}, {Integer.MAX_VALUE, 0, 1}, {0, Integer.MAX_VALUE, 1}}) {
             due("outside", x.shift(0, out[0], 1, out[1], out[2]), TypesAtPrime.OUTSIDE);
         }

@@ -2,50 +2,7 @@
  * The promises one by one, with answers reckoned by hand: ordinary inputs, the edges that the
  * document names, and wrong inputs.
  */
-public final class PromiseTest {
-    private static final long NO = Long.MIN_VALUE;
-    private static int wrong = 0;
-    private static int promise = 0;
-
-    private static void due(String call, long got, long want) {
-        if (got == want) return;
-        wrong++;
-        System.out.println("promise " + promise + ": " + call + " answered " + got + ", due is " + want);
-    }
-
-    private static void feed(TypesAtPrime x, String text) {
-        for (int i = 0; i < text.length(); i++) x.feed(text.charAt(i));
-    }
-
-    private static int read(TypesAtPrime x, int slot, String text) {
-        feed(x, text);
-        return x.text(slot);
-    }
-
-    private static TypesAtPrime grown(int p, String text) {
-        TypesAtPrime x = new TypesAtPrime();
-        x.prime(p);
-        read(x, 0, text);
-        x.grow(0);
-        return x;
-    }
-
-    private static String spelled(TypesAtPrime x) {
-        StringBuilder b = new StringBuilder();
-        for (int i = 0; x.spelling(i) >= 0; i++) b.append((char) x.spelling(i));
-        return b.toString();
-    }
-
-    private static void dueText(String what, String got, String want) {
-        if (got.equals(want)) return;
-        wrong++;
-        System.out.println("promise " + promise + ": " + what + " is " + got + ", due is " + want);
-    }
-
-    private static void dueRow(String what, long[] got, long... want) {
-        for (int i = 0; i < Math.max(got.length, want.length); i++) due(what + " at " + i, got[i], want[i]);
-    }
-
+public final class PromiseTest extends Checks {
     public static void main(String[] args) {
         newObject();
         prime();
@@ -69,24 +26,23 @@ public final class PromiseTest {
         sheetCellItem();
         shift();
         count();
-        System.out.println(wrong == 0 ? "all promises hold" : wrong + " answers are not as promised");
-        if (wrong != 0) System.exit(1);
+        end("all promises hold");
     }
 
     private static void newObject() {
-        promise = 1;
+        promise(1);
         TypesAtPrime x = new TypesAtPrime();
         int[] counts = {3, 18, 0, 0, 0, 0};
         for (int w = 0; w < 6; w++) due("count " + w, x.count(w), counts[w]);
         for (int s = 0; s < 5; s++) for (int k = 0; k < 9; k++) due("at", x.at(s, k), 0);
         for (int s = 0; s < 4; s++) due("item", x.item(s, 0), NO);
-        due("tree", x.tree(0), TypesAtPrime.NONE);
+        due("tree", x.tree(0), NONE);
         due("wipe", x.wipe(), 0);
         due("NO", TypesAtPrime.NO, Long.MIN_VALUE);
     }
 
     private static void prime() {
-        promise = 2;
+        promise(2);
         TypesAtPrime x = new TypesAtPrime();
         int[][] limits = {{2, 28}, {5, 12}, {7, 10}, {3, 18}};
         int was = 3;
@@ -97,7 +53,7 @@ public final class PromiseTest {
         }
         read(x, 0, "x");
         x.grow(0);
-        for (int bad : new int[] {-3, 0, 1, 4, 6, 8, 9, 11, Integer.MAX_VALUE, Integer.MIN_VALUE}) due("prime " + bad, x.prime(bad), TypesAtPrime.BAD);
+        for (int bad : new int[] {-3, 0, 1, 4, 6, 8, 9, 11, Integer.MAX_VALUE, Integer.MIN_VALUE}) due("prime " + bad, x.prime(bad), BAD);
         due("tree stays", x.count(5), 1);
         due("the same prime", x.prime(3), 3);
         due("no tree then", x.count(5), 0);
@@ -105,23 +61,23 @@ public final class PromiseTest {
     }
 
     private static void feedAndWipe() {
-        promise = 3;
+        promise(3);
         TypesAtPrime x = new TypesAtPrime();
         due("feed", x.feed(0), 1);
         due("feed", x.feed(127), 2);
-        due("feed", x.feed(128), TypesAtPrime.BAD);
-        due("feed", x.feed(-1), TypesAtPrime.BAD);
+        due("feed", x.feed(128), BAD);
+        due("feed", x.feed(-1), BAD);
         for (int n = 3; n <= 80; n++) due("feed", x.feed('x'), n);
-        due("feed", x.feed('x'), TypesAtPrime.FULL);
-        due("bad comes first", x.feed(128), TypesAtPrime.BAD);
-        promise = 4;
+        due("feed", x.feed('x'), FULL);
+        due("bad comes first", x.feed(128), BAD);
+        promise(4);
         due("wipe", x.wipe(), 80);
         due("wipe", x.wipe(), 0);
         due("feed", x.feed('x'), 1);
     }
 
     private static void text() {
-        promise = 5;
+        promise(5);
         TypesAtPrime x = new TypesAtPrime();
         due("text", read(x, 1, "-x^8+12*x^3-7+x-0012+2*x^0"), 8);
         dueRow("row", row(x, 1), -17, 1, 0, 12, 0, 0, 0, 0, -1);
@@ -139,35 +95,29 @@ public final class PromiseTest {
         due("79", read(x, 1, longest.toString()), 1);
         due("38 times", x.at(1, 1), -38);
         due("80", read(x, 1, longest + "+"), -180);
-        due("too great", read(x, 1, "9999+1"), TypesAtPrime.NOT);
-        due("too small", read(x, 1, "-9999*x-1*x"), TypesAtPrime.NOT);
+        due("too great", read(x, 1, "9999+1"), NOT);
+        due("too small", read(x, 1, "-9999*x-1*x"), NOT);
         due("a fault comes first", read(x, 1, "9999+1+"), -107);
         due("kept", x.at(1, 1), -38);
         feed(x, "x");
-        due("bad", x.text(5), TypesAtPrime.BAD);
-        due("bad", x.text(-1), TypesAtPrime.BAD);
+        due("bad", x.text(5), BAD);
+        due("bad", x.text(-1), BAD);
         due("stays", x.count(2), 1);
         due("then", x.text(4), 1);
     }
 
-    private static long[] row(TypesAtPrime x, int slot) {
-        long[] row = new long[9];
-        for (int k = 0; k < 9; k++) row[k] = x.at(slot, k);
-        return row;
-    }
-
     private static void setAtTold() {
-        promise = 6;
+        promise(6);
         TypesAtPrime x = new TypesAtPrime();
         due("set", x.set(4, 8, -9999), 0);
         due("set", x.set(4, 8, 9999), -9999);
         for (int[] bad : new int[][] {{-1, 0, 0}, {5, 0, 0}, {0, -1, 0}, {0, 9, 0}, {4, 8, 10000}, {4, 8, -10000}, {4, 8, Integer.MIN_VALUE}}) {
             due("set", x.set(bad[0], bad[1], bad[2]), NO);
         }
-        promise = 7;
+        promise(7);
         due("at", x.at(4, 8), 9999);
         for (int[] bad : new int[][] {{-1, 0}, {5, 0}, {0, -1}, {0, 9}}) due("at", x.at(bad[0], bad[1]), NO);
-        promise = 8;
+        promise(8);
         due("told", x.told(4, 0), 8);
         due("not monic", x.told(4, 1), 0);
         due("nought", x.told(3, 0), -10);
@@ -179,50 +129,50 @@ public final class PromiseTest {
         due("x + 1", x.told(3, 1), 1);
         x.set(3, 2, -1);
         due("-x^2", x.told(3, 1), 0);
-        for (int[] bad : new int[][] {{-1, 0}, {5, 1}, {0, -1}, {0, 2}}) due("told", x.told(bad[0], bad[1]), TypesAtPrime.BAD);
+        for (int[] bad : new int[][] {{-1, 0}, {5, 1}, {0, -1}, {0, 2}}) due("told", x.told(bad[0], bad[1]), BAD);
     }
 
     private static void mix() {
-        promise = 9;
+        promise(9);
         TypesAtPrime x = new TypesAtPrime();
         read(x, 0, "3*x^2+1");
         read(x, 1, "x^3-2");
         due("mix", x.mix(0, 3333, 1, -3, 0), 1);
         dueRow("row", row(x, 0), 3339, 0, 9999, -3, 0, 0, 0, 0, 0);
-        due("not", x.mix(0, 1, 1, -9997, 2), TypesAtPrime.NOT);
-        due("not", x.mix(0, Integer.MAX_VALUE, 0, Integer.MAX_VALUE, 2), TypesAtPrime.NOT);
+        due("not", x.mix(0, 1, 1, -9997, 2), NOT);
+        due("not", x.mix(0, Integer.MAX_VALUE, 0, Integer.MAX_VALUE, 2), NOT);
         due("kept", x.told(2, 0), -10);
-        due("both in one", x.mix(0, Integer.MIN_VALUE, 0, Integer.MIN_VALUE, 2), TypesAtPrime.NOT);
+        due("both in one", x.mix(0, Integer.MIN_VALUE, 0, Integer.MIN_VALUE, 2), NOT);
         due("off", x.mix(0, Integer.MAX_VALUE, 0, -Integer.MAX_VALUE, 0), 1);
         due("nought", x.told(0, 0), -10);
         for (int[] bad : new int[][] {{-1, 0, 0}, {5, 0, 0}, {0, -1, 0}, {0, 5, 0}, {0, 0, -1}, {0, 0, 5}}) {
-            due("mix", x.mix(bad[0], 1, bad[1], 1, bad[2]), TypesAtPrime.BAD);
+            due("mix", x.mix(bad[0], 1, bad[1], 1, bad[2]), BAD);
         }
     }
 
     private static void times() {
-        promise = 10;
+        promise(10);
         TypesAtPrime x = new TypesAtPrime();
         read(x, 0, "x^4+2*x-3");
         read(x, 1, "x^5");
         read(x, 3, "100*x");
         due("square", x.times(0, 0, 0), 1);
         dueRow("row", row(x, 0), 9, -12, 4, 0, -6, 4, 0, 0, 1);
-        due("deep", x.times(1, 1, 2), TypesAtPrime.DEEP);
+        due("deep", x.times(1, 1, 2), DEEP);
         due("by nought", x.times(0, 4, 2), 1);
         due("nought", x.told(2, 0), -10);
-        due("not", x.times(3, 3, 2), TypesAtPrime.NOT);
+        due("not", x.times(3, 3, 2), NOT);
         x.set(1, 0, 9999);
         x.set(0, 0, 9999);
-        due("deep comes first", x.times(0, 1, 2), TypesAtPrime.DEEP);
+        due("deep comes first", x.times(0, 1, 2), DEEP);
         due("kept", x.told(2, 0), -10);
         for (int[] bad : new int[][] {{-1, 0, 0}, {5, 0, 0}, {0, -1, 0}, {0, 5, 0}, {0, 0, -1}, {0, 0, 5}}) {
-            due("times", x.times(bad[0], bad[1], bad[2]), TypesAtPrime.BAD);
+            due("times", x.times(bad[0], bad[1], bad[2]), BAD);
         }
     }
 
     private static void worth() {
-        promise = 11;
+        promise(11);
         TypesAtPrime x = new TypesAtPrime();
         read(x, 0, "x^2-5*x+6");
         due("worth", x.worth(0, 4), 2);
@@ -250,7 +200,7 @@ public final class PromiseTest {
     }
 
     private static void expansion() {
-        promise = 12;
+        promise(12);
         TypesAtPrime x = new TypesAtPrime();
         read(x, 0, "x^6-27");
         read(x, 1, "x^2-3");
@@ -289,7 +239,7 @@ public final class PromiseTest {
     }
 
     private static void factor() {
-        promise = 13;
+        promise(13);
         TypesAtPrime x = new TypesAtPrime();
         // how often, then the coefficients from that of x^0 on
         dueFactors(x, "x^8+1", 2, new int[] {8, 1, 1});
@@ -312,16 +262,16 @@ public final class PromiseTest {
     }
 
     private static void grow() {
-        promise = 14;
+        promise(14);
         TypesAtPrime x = grown(3, "x^6-27");
         dueText("spelling", spelled(x), "2.1!+2.2");
-        due("bad", x.grow(-1), TypesAtPrime.BAD);
-        due("bad", x.grow(5), TypesAtPrime.BAD);
-        due("not", x.grow(1), TypesAtPrime.NOT);
+        due("bad", x.grow(-1), BAD);
+        due("bad", x.grow(5), BAD);
+        due("not", x.grow(1), NOT);
         x.set(1, 0, 1);
-        due("1 is not monic", x.grow(1), TypesAtPrime.NOT);
+        due("1 is not monic", x.grow(1), NOT);
         x.set(1, 3, 2);
-        due("2 in front", x.grow(1), TypesAtPrime.NOT);
+        due("2 in front", x.grow(1), NOT);
         dueText("stays", spelled(x), "2.1!+2.2");
         x.set(0, 0, 5);
         dueText("stays when the slot changes", spelled(x), "2.1!+2.2");
@@ -334,7 +284,7 @@ public final class PromiseTest {
     }
 
     private static void tree() {
-        promise = 15;
+        promise(15);
         TypesAtPrime x = grown(3, "x^6-27");
         int[] want = {2, 2, 9, 0, 2, 2, 8, 6};
         for (int w = 0; w < 8; w++) due("tree " + w, x.tree(w), want[w]);
@@ -344,23 +294,23 @@ public final class PromiseTest {
         x = grown(5, "x-3");
         want = new int[] {0, 1, 0, 0, 1, 0, 3, 1};
         for (int w = 0; w < 8; w++) due("low tree " + w, x.tree(w), want[w]);
-        due("bad", x.tree(-1), TypesAtPrime.BAD);
-        due("bad", x.tree(8), TypesAtPrime.BAD);
+        due("bad", x.tree(-1), BAD);
+        due("bad", x.tree(8), BAD);
         x.prime(5);
-        due("none", x.tree(7), TypesAtPrime.NONE);
-        due("bad comes first", x.tree(8), TypesAtPrime.BAD);
+        due("none", x.tree(7), NONE);
+        due("bad comes first", x.tree(8), BAD);
     }
 
     private static void knotKeyPoint() {
-        promise = 16;
+        promise(16);
         TypesAtPrime x = grown(3, "x^6-27");
         int[][] want = {{1, 6, 1, 1, 6, -2, 0}, {2, 3, 2, 1, 3, 0, 1}};
         for (int i = 0; i < 2; i++) for (int w = 0; w < 7; w++) due("knot " + i + " " + w, x.knot(i, w), want[i][w]);
-        due("none", x.knot(2, 0), TypesAtPrime.NONE);
-        due("none", x.knot(-1, 0), TypesAtPrime.NONE);
-        due("bad comes first", x.knot(2, 7), TypesAtPrime.BAD);
-        due("bad", x.knot(0, -1), TypesAtPrime.BAD);
-        due("no tree", new TypesAtPrime().knot(0, 0), TypesAtPrime.NONE);
+        due("none", x.knot(2, 0), NONE);
+        due("none", x.knot(-1, 0), NONE);
+        due("bad comes first", x.knot(2, 7), BAD);
+        due("bad", x.knot(0, -1), BAD);
+        due("no tree", new TypesAtPrime().knot(0, 0), NONE);
         TypesAtPrime deep = grown(2, "x^2+2*x+1");
         for (int i = 0; i < 6; i++) {
             int[] all = {i + 1, 2, 1, 1, 1, i == 0 ? -2 : i - 1, 0};
@@ -369,13 +319,13 @@ public final class PromiseTest {
         TypesAtPrime lost = grown(7, "x^8");
         int[] all = {1, 8, 1, 0, 0, -2, 8};
         for (int w = 0; w < 7; w++) due("lost knot " + w, lost.knot(0, w), all[w]);
-        promise = 17;
+        promise(17);
         long[][] keys = {{0, 1, 0, 0, 0, 0, 0, 0, 0}, {387420489 - 3, 0, 1, 0, 0, 0, 0, 0, 0}};
         for (int i = 0; i < 2; i++) for (int k = 0; k < 9; k++) due("key " + i + " " + k, x.key(i, k), keys[i][k]);
         for (int i = 0; i < 6; i++) due("deep key " + i, deep.key(i, 0), (1L << 28) - (2L << i) + 1);
         for (int[] bad : new int[][] {{-1, 0}, {2, 0}, {0, -1}, {0, 9}}) due("key", x.key(bad[0], bad[1]), NO);
-        promise = 18;
-        int none = TypesAtPrime.NONE;
+        promise(18);
+        int none = NONE;
         int[][] points = {{3, none, none, none, none, none, 0, none, none}, {none, 8, 8, 6, none, none, none, none, none}};
         for (int i = 0; i < 2; i++) for (int k = 0; k < 9; k++) due("point " + i + " " + k, x.point(i, k), points[i][k]);
         for (int i = 0; i < 6; i++) {
@@ -385,39 +335,39 @@ public final class PromiseTest {
         }
         due("none", x.point(2, 0), none);
         due("none", x.point(-1, 0), none);
-        due("bad comes first", x.point(2, 9), TypesAtPrime.BAD);
-        due("bad", x.point(0, -1), TypesAtPrime.BAD);
+        due("bad comes first", x.point(2, 9), BAD);
+        due("bad", x.point(0, -1), BAD);
     }
 
     private static void sideResidualMonomial() {
         TypesAtPrime x = grown(3, "x^6-27"), many = grown(2, "x^3+2*x^2+16*x+1024");
-        promise = 19;
+        promise(19);
         int[][] sides = {{0, 6, 3, 2, 3, 1}, {1, 3, 2, 1, 2, 3}};
         for (int i = 0; i < 2; i++) for (int w = 0; w < 6; w++) due("side " + i + " " + w, x.side(i, 0, w), sides[i][w]);
         int[][] three = {{0, 1, 6, 1, 1, 6}, {1, 2, 3, 1, 1, 3}, {2, 3, 1, 1, 1, 1}};
         for (int j = 0; j < 3; j++) for (int w = 0; w < 6; w++) due("side of three " + j + " " + w, many.side(0, j, w), three[j][w]);
         due("index of three", many.knot(0, 4), 5);
-        due("none", many.side(0, 3, 0), TypesAtPrime.NONE);
-        due("none", many.side(0, -1, 0), TypesAtPrime.NONE);
-        due("none", many.side(1, 0, 0), TypesAtPrime.NONE);
-        due("bad comes first", many.side(1, 0, 6), TypesAtPrime.BAD);
-        due("bad", many.side(0, 0, -1), TypesAtPrime.BAD);
-        promise = 20;
+        due("none", many.side(0, 3, 0), NONE);
+        due("none", many.side(0, -1, 0), NONE);
+        due("none", many.side(1, 0, 0), NONE);
+        due("bad comes first", many.side(1, 0, 6), BAD);
+        due("bad", many.side(0, 0, -1), BAD);
+        promise(20);
         int[][] residuals = {{2, 0, 0, 1, 0, 0, 0, 0, 0}, {1, 0, 1, 0, 0, 0, 0, 0, 0}};
         for (int i = 0; i < 2; i++) for (int k = 0; k < 9; k++) due("residual " + i + " " + k, x.residual(i, 0, k), residuals[i][k]);
         for (int j = 0; j < 3; j++) for (int k = 0; k < 9; k++) due("residual of three", many.residual(0, j, k), k < 2 ? 1 : 0);
-        due("none", x.residual(2, 0, 0), TypesAtPrime.NONE);
-        due("none", x.residual(0, 1, 0), TypesAtPrime.NONE);
-        due("bad comes first", x.residual(2, 0, 9), TypesAtPrime.BAD);
-        due("bad", x.residual(0, 0, -1), TypesAtPrime.BAD);
-        promise = 21;
+        due("none", x.residual(2, 0, 0), NONE);
+        due("none", x.residual(0, 1, 0), NONE);
+        due("bad comes first", x.residual(2, 0, 9), BAD);
+        due("bad", x.residual(0, 0, -1), BAD);
+        promise(21);
         int[][] monomials = {{1, 0, 0, 0, 0, 0, 0}, {1, 1, 0, 0, 0, 0, 0}};
         for (int i = 0; i < 2; i++) for (int w = 0; w < 7; w++) due("monomial " + i + " " + w, x.monomial(i, 0, w), monomials[i][w]);
         for (int j = 0; j < 3; j++) due("monomial of three", many.monomial(0, j, 0), three[j][5]);
-        due("none", x.monomial(2, 0, 0), TypesAtPrime.NONE);
-        due("none", x.monomial(0, 1, 0), TypesAtPrime.NONE);
-        due("bad comes first", x.monomial(2, 0, 7), TypesAtPrime.BAD);
-        due("bad", x.monomial(0, 0, -1), TypesAtPrime.BAD);
+        due("none", x.monomial(2, 0, 0), NONE);
+        due("none", x.monomial(0, 1, 0), NONE);
+        due("bad comes first", x.monomial(2, 0, 7), BAD);
+        due("bad", x.monomial(0, 0, -1), BAD);
     }
 
     private static void dueLeaf(TypesAtPrime x, int i, int... want) {
@@ -425,7 +375,7 @@ public final class PromiseTest {
     }
 
     private static void leafAndSpelling() {
-        promise = 22;
+        promise(22);
         TypesAtPrime x = grown(3, "x^6-27");
         dueLeaf(x, 0, 1, 2, 1, 2, 1);
         dueLeaf(x, 1, 0, 2, 2, 4, 1);
@@ -434,56 +384,45 @@ public final class PromiseTest {
         dueLeaf(y, 1, 0, 1, 1, 1, -2);
         dueLeaf(grown(2, "x^4+2*x^3+3*x^2+2*x+1"), 0, 2, 0, 0, 4, -2);
         dueLeaf(grown(2, "x^2+2*x+1"), 0, 3, 0, 0, 2, 5);
-        due("none", x.leaf(2, 0), TypesAtPrime.NONE);
-        due("none", x.leaf(-1, 0), TypesAtPrime.NONE);
-        due("bad comes first", x.leaf(2, 5), TypesAtPrime.BAD);
-        due("bad", x.leaf(0, -1), TypesAtPrime.BAD);
-        promise = 23;
+        due("none", x.leaf(2, 0), NONE);
+        due("none", x.leaf(-1, 0), NONE);
+        due("bad comes first", x.leaf(2, 5), BAD);
+        due("bad", x.leaf(0, -1), BAD);
+        promise(23);
         dueText("spelling", spelled(y), "???2+1.1");
-        due("none", y.spelling(8), TypesAtPrime.NONE);
-        due("none", y.spelling(-1), TypesAtPrime.NONE);
-        due("no tree", new TypesAtPrime().spelling(0), TypesAtPrime.NONE);
+        due("none", y.spelling(8), NONE);
+        due("none", y.spelling(-1), NONE);
+        due("no tree", new TypesAtPrime().spelling(0), NONE);
     }
 
-    private static int asked(TypesAtPrime x, String word) {
-        feed(x, word);
-        int answer = x.ask();
+    private static int askedOnce(TypesAtPrime x, String word) {
+        int answer = asked(x, word);
         due("the tape is empty", x.count(2), 0);
         return answer;
     }
 
     private static void ask() {
-        promise = 24;
+        promise(24);
         TypesAtPrime x = new TypesAtPrime();
         String[] words = {"knots", "leaves", "index", "open", "wild", "levels", "size", "degree"};
-        for (String word : words) due(word, asked(x, word), TypesAtPrime.NONE);
-        due("prime", asked(x, "prime"), 3);
-        for (String other : new String[] {"", "knot", "knotss", "Knots", "primes", "x"}) due(other, asked(x, other), TypesAtPrime.NOT);
+        for (String word : words) due(word, askedOnce(x, word), NONE);
+        due("prime", askedOnce(x, "prime"), 3);
+        for (String other : new String[] {"", "knot", "knotss", "Knots", "primes", "x"}) due(other, askedOnce(x, other), NOT);
         x = grown(3, "x^6-27");
         int[] want = {2, 2, 9, 0, 2, 2, 8, 6};
-        for (int w = 0; w < 8; w++) due(words[w], asked(x, words[w]), want[w]);
-        due("prime", asked(x, "prime"), 3);
-    }
-
-    private static void fill(TypesAtPrime x, int sheet, int sort, int... numbers) {
-        x.sheet(sheet, sort, numbers.length);
-        for (int i = 0; i < numbers.length; i++) x.cell(sheet, i, numbers[i]);
-    }
-
-    private static void dueCorners(TypesAtPrime x, int sheet, int... places) {
-        for (int i = 0; i < places.length; i++) due("corner " + i, x.corner(sheet, i), places[i]);
-        due("no more", x.corner(sheet, places.length), TypesAtPrime.NONE);
+        for (int w = 0; w < 8; w++) due(words[w], askedOnce(x, words[w]), want[w]);
+        due("prime", askedOnce(x, "prime"), 3);
     }
 
     private static void corner() {
-        promise = 25;
+        promise(25);
         TypesAtPrime x = new TypesAtPrime();
-        due("nothing", x.corner(0, 0), TypesAtPrime.NOTHING);
-        due("bad", x.corner(4, 0), TypesAtPrime.BAD);
-        due("bad", x.corner(-1, 0), TypesAtPrime.BAD);
+        due("nothing", x.corner(0, 0), NOTHING);
+        due("bad", x.corner(4, 0), BAD);
+        due("bad", x.corner(-1, 0), BAD);
         fill(x, 0, 1, -5, 6, 4, 2, -1, 0, 0, 0, 3, -2);
         dueCorners(x, 0, 1, 3, 5, 7, 8);
-        due("below 0", x.corner(0, -1), TypesAtPrime.NONE);
+        due("below 0", x.corner(0, -1), NONE);
         fill(x, 1, 1, Integer.MAX_VALUE, 0, Integer.MAX_VALUE, Integer.MIN_VALUE);
         dueCorners(x, 1, 0, 1, 2);
         fill(x, 2, 1, 3, 3, 3, 3);
@@ -501,7 +440,7 @@ public final class PromiseTest {
     }
 
     private static void slopeWhyNot() {
-        promise = 26;
+        promise(26);
         TypesAtPrime x = new TypesAtPrime();
         fill(x, 0, 1, 9, -2, Integer.MIN_VALUE, Integer.MAX_VALUE, 0);
         due("slope", x.slope(0, 0, 4, 0), 2);
@@ -515,24 +454,19 @@ public final class PromiseTest {
         for (int[] bad : new int[][] {{-1, 0, 1, 0}, {4, 0, 1, 0}, {0, 0, 1, -1}, {0, 0, 1, 2}, {1, 0, 1, 0}, {0, -1, 1, 0}, {0, 5, 1, 0}, {0, 0, -1, 0}, {0, 0, 5, 0}, {0, 2, 2, 0}, {0, 2, 2, 1}}) {
             due("slope", x.slope(bad[0], bad[1], bad[2], bad[3]), NO);
         }
-        promise = 27;
+        promise(27);
         due("there is one", x.whyNot(0, 0, 4), 0);
-        due("bad", x.whyNot(4, 0, 0), TypesAtPrime.BAD);
-        due("bad", x.whyNot(-1, 0, 0), TypesAtPrime.BAD);
-        due("nothing", x.whyNot(1, 9, 9), TypesAtPrime.NOTHING);
-        due("outside comes first", x.whyNot(0, 5, 5), TypesAtPrime.OUTSIDE);
-        due("outside", x.whyNot(0, -1, 0), TypesAtPrime.OUTSIDE);
-        due("outside", x.whyNot(0, 0, 5), TypesAtPrime.OUTSIDE);
-        due("by nought", x.whyNot(0, 4, 4), TypesAtPrime.BY_NOUGHT);
-    }
-
-    private static void dueItems(TypesAtPrime x, int sheet, long... want) {
-        for (int i = 0; i < want.length; i++) due("item " + i, x.item(sheet, i), want[i]);
-        due("no more", x.item(sheet, want.length), NO);
+        due("bad", x.whyNot(4, 0, 0), BAD);
+        due("bad", x.whyNot(-1, 0, 0), BAD);
+        due("nothing", x.whyNot(1, 9, 9), NOTHING);
+        due("outside comes first", x.whyNot(0, 5, 5), OUTSIDE);
+        due("outside", x.whyNot(0, -1, 0), OUTSIDE);
+        due("outside", x.whyNot(0, 0, 5), OUTSIDE);
+        due("by nought", x.whyNot(0, 4, 4), BY_NOUGHT);
     }
 
     private static void spill() {
-        promise = 28;
+        promise(28);
         TypesAtPrime x = grown(3, "x^6-27");
         fill(x, 0, 1, 5, 5, 5, 5, 5, 5, 5, 5, 5, 5, 5);
         due("spill", x.spill(1, 0, 1), 9);
@@ -540,12 +474,12 @@ public final class PromiseTest {
         due("spill", x.spill(0, 0, 9), 2);
         dueItems(x, 0, 5, -1, 8, 8, 6, -1, -1, -1, -1, 3, -1);
         due("no room", x.spill(0, 0, 11), 0);
-        due("outside", x.spill(0, 0, 12), TypesAtPrime.OUTSIDE);
-        due("outside", x.spill(0, 0, -1), TypesAtPrime.OUTSIDE);
-        due("nothing comes before outside", x.spill(0, 1, -1), TypesAtPrime.NOTHING);
-        due("none comes before nothing", x.spill(2, 1, 0), TypesAtPrime.NONE);
-        due("bad comes first", x.spill(2, 4, 0), TypesAtPrime.BAD);
-        due("bad", x.spill(0, -1, 0), TypesAtPrime.BAD);
+        due("outside", x.spill(0, 0, 12), OUTSIDE);
+        due("outside", x.spill(0, 0, -1), OUTSIDE);
+        due("nothing comes before outside", x.spill(0, 1, -1), NOTHING);
+        due("none comes before nothing", x.spill(2, 1, 0), NONE);
+        due("bad comes first", x.spill(2, 4, 0), BAD);
+        due("bad", x.spill(0, -1, 0), BAD);
         due("kept", x.item(0, 0), 5);
         x.sheet(1, 0, 3);
         due("bytes", x.spill(1, 1, 0), 3);
@@ -553,25 +487,25 @@ public final class PromiseTest {
     }
 
     private static void sheetCellItem() {
-        promise = 29;
+        promise(29);
         TypesAtPrime x = new TypesAtPrime();
         due("sheet", x.sheet(0, 0, 40), 1);
         due("item", x.item(0, 39), 0);
-        due("bad", x.sheet(0, 0, 41), TypesAtPrime.BAD);
-        due("bad", x.sheet(0, 2, 1), TypesAtPrime.BAD);
-        due("bad", x.sheet(0, -2, 1), TypesAtPrime.BAD);
-        due("bad comes first", x.sheet(0, 2, -1), TypesAtPrime.BAD);
-        due("bad", x.sheet(4, 0, 1), TypesAtPrime.BAD);
-        due("bad", x.sheet(-1, 0, 1), TypesAtPrime.BAD);
-        due("size", x.sheet(0, 1, -1), TypesAtPrime.SIZE);
+        due("bad", x.sheet(0, 0, 41), BAD);
+        due("bad", x.sheet(0, 2, 1), BAD);
+        due("bad", x.sheet(0, -2, 1), BAD);
+        due("bad comes first", x.sheet(0, 2, -1), BAD);
+        due("bad", x.sheet(4, 0, 1), BAD);
+        due("bad", x.sheet(-1, 0, 1), BAD);
+        due("size", x.sheet(0, 1, -1), SIZE);
         due("still bytes", x.cell(0, 0, 256), 1);
         due("still bytes", x.item(0, 0), 0);
         due("missing", x.sheet(0, -1, -7), 1);
-        due("missing", x.cell(0, 0, 1), TypesAtPrime.NOTHING);
+        due("missing", x.cell(0, 0, 1), NOTHING);
         due("missing", x.sheet(0, -1, 99), 1);
         due("empty", x.sheet(3, 1, 0), 1);
-        due("empty", x.cell(3, 0, 0), TypesAtPrime.OUTSIDE);
-        promise = 30;
+        due("empty", x.cell(3, 0, 0), OUTSIDE);
+        promise(30);
         x.sheet(0, 0, 2);
         x.sheet(1, 1, 2);
         due("cell", x.cell(0, 1, 200), 1);
@@ -579,20 +513,20 @@ public final class PromiseTest {
         due("cell", x.cell(0, 0, -129), 1);
         due("byte", x.item(0, 0), 127);
         due("cell", x.cell(1, 1, Integer.MIN_VALUE), 1);
-        due("bad", x.cell(4, 0, 0), TypesAtPrime.BAD);
-        due("bad", x.cell(-1, 0, 0), TypesAtPrime.BAD);
-        due("nothing", x.cell(2, 9, 0), TypesAtPrime.NOTHING);
-        due("outside", x.cell(0, 2, 0), TypesAtPrime.OUTSIDE);
-        due("outside", x.cell(0, -1, 0), TypesAtPrime.OUTSIDE);
+        due("bad", x.cell(4, 0, 0), BAD);
+        due("bad", x.cell(-1, 0, 0), BAD);
+        due("nothing", x.cell(2, 9, 0), NOTHING);
+        due("outside", x.cell(0, 2, 0), OUTSIDE);
+        due("outside", x.cell(0, -1, 0), OUTSIDE);
         x.sheet(0, 0, 2);
         dueItems(x, 0, 0, 0);
-        promise = 31;
+        promise(31);
         due("item", x.item(1, 1), Integer.MIN_VALUE);
         for (int[] bad : new int[][] {{-1, 0}, {4, 0}, {2, 0}, {1, 2}, {1, -1}, {1, Integer.MAX_VALUE}}) due("item", x.item(bad[0], bad[1]), NO);
     }
 
     private static void shift() {
-        promise = 32;
+        promise(32);
         TypesAtPrime x = new TypesAtPrime();
         fill(x, 0, 1, 1, 2, 3, 4, 5);
         fill(x, 1, 1, 9, 9, 9);
@@ -613,19 +547,19 @@ public final class PromiseTest {
         x.sheet(3, -1, 0);
         fill(x, 0, 1, 1, 2, 3, 4, 4);
         for (int[] out : new int[][] {{-1, 0, 1}, {0, -1, 1}, {0, 0, -1}, {5, 0, 1}, {0, 3, 1}, {0, 0, 4}, {3, 0, 3}, {6, 0, 0}, {0, 4, 0}, {1, 0, Integer.MAX_VALUE}, {Integer.MAX_VALUE, 0, 1}, {0, Integer.MAX_VALUE, 1}}) {
-            due("outside", x.shift(0, out[0], 1, out[1], out[2]), TypesAtPrime.OUTSIDE);
+            due("outside", x.shift(0, out[0], 1, out[1], out[2]), OUTSIDE);
         }
-        due("sort comes before outside", x.shift(0, -1, 2, 0, 1), TypesAtPrime.SORT);
-        due("nothing comes before sort", x.shift(2, 0, 3, 0, 1), TypesAtPrime.NOTHING);
-        due("nothing", x.shift(3, 0, 2, 0, 1), TypesAtPrime.NOTHING);
-        due("bad comes first", x.shift(3, 0, 4, 0, 1), TypesAtPrime.BAD);
-        due("bad", x.shift(-1, 0, 0, 0, 1), TypesAtPrime.BAD);
+        due("sort comes before outside", x.shift(0, -1, 2, 0, 1), SORT);
+        due("nothing comes before sort", x.shift(2, 0, 3, 0, 1), NOTHING);
+        due("nothing", x.shift(3, 0, 2, 0, 1), NOTHING);
+        due("bad comes first", x.shift(3, 0, 4, 0, 1), BAD);
+        due("bad", x.shift(-1, 0, 0, 0, 1), BAD);
         dueItems(x, 0, 1, 2, 3, 4, 4);
         dueItems(x, 1, 2, 3, 9);
     }
 
     private static void count() {
-        promise = 33;
+        promise(33);
         TypesAtPrime x = grown(7, "x^2-7");
         x.set(3, 5, -1);
         feed(x, "abc");
@@ -639,7 +573,7 @@ public final class PromiseTest {
         x.set(0, 0, 0);
         due("sheets", x.count(4), 2);
         due("slots", x.count(3), 8);
-        due("bad", x.count(-1), TypesAtPrime.BAD);
-        due("bad", x.count(6), TypesAtPrime.BAD);
+        due("bad", x.count(-1), BAD);
+        due("bad", x.count(6), BAD);
     }
 }

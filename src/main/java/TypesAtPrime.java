@@ -1032,8 +1032,9 @@ public final class TypesAtPrime {
 
         /** VALUE of the MONOMIAL of a place, with s of 0, at a level. */
         int valueOfPlace(int place, int level) {
+            if (level < 1 || level > DEEPEST) return 0;
             int sum = 0;
-            for (int k = 1; k < level && k <= DEEPEST; k++) {
+            for (int k = 1; k < level; k++) {
                 int scale = quotient(degree[level], degree[k] * ramification[k]);
                 sum += exponent(place, k) * slopeValue[k] * scale;
             }

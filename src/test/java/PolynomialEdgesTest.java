@@ -57,6 +57,10 @@ public final class PolynomialEdgesTest extends Checks {
         says(1, "As told at first: 3 at first");
         due("count 0", x.count(0), 3);
         due("count 1", x.count(1), 18);
+        TypesAtPrime untold = new TypesAtPrime();
+        read(untold, 0, "x-1");
+        read(untold, 1, "x");
+        due("a NUMBER", untold.expansion(0, 1, 0, 0), 387420488);
         says(1, "all 0 at first");
         for (int slot = 0; slot < 5; slot++) dueRow("slot " + slot, row(x, slot), 0, 0, 0, 0, 0, 0, 0, 0, 0);
         due("count 3", x.count(3), 0);

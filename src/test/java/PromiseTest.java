@@ -39,6 +39,10 @@ public final class PromiseTest extends Checks {
         due("tree", x.tree(0), NONE);
         due("wipe", x.wipe(), 0);
         due("NO", TypesAtPrime.NO, Long.MIN_VALUE);
+        int[] refusals = {TypesAtPrime.BAD, TypesAtPrime.NONE, TypesAtPrime.NOT, TypesAtPrime.FULL, TypesAtPrime.WIDE, TypesAtPrime.DEEP,
+            TypesAtPrime.NOTHING, TypesAtPrime.OUTSIDE, TypesAtPrime.SORT, TypesAtPrime.SIZE, TypesAtPrime.BY_NOUGHT};
+        int[] numbers = {-1, -2, -3, -4, -5, -6, -11, -12, -13, -14, -15};
+        for (int i = 0; i < numbers.length; i++) due("refusal " + i, refusals[i], numbers[i]);
     }
 
     private static void prime() {

@@ -7,6 +7,7 @@ public final class TreeEdgesTest extends Checks {
         growRefused();
         growSmallestAndLargest();
         growAgain();
+        growOften();
         factorsOfLevelNought();
         firstKeys();
         orderOfKnotsAndLeaves();
@@ -18,6 +19,8 @@ public final class TreeEdgesTest extends Checks {
         cornersAndSides();
         residualHoles();
         residualOfRoots();
+        headOfAPart();
+        keysOfKeys();
         exponentsTooLarge();
         hardBelowAKnot();
         deepestLevel();
@@ -125,6 +128,24 @@ public final class TreeEdgesTest extends Checks {
         read(x, 1, "x^8");
         due("degree", x.tree(7), 1);
         dueText("spelling", spelled(x), "1.1");
+    }
+
+    private static void growOften() {
+        says(14, "THE TREE is that one alone, however many stood before");
+        TypesAtPrime x = grown(2, "x^8+16*x^4+64");
+        read(x, 1, "x^2+2*x+1");
+        for (int n = 0; n < 60; n++) {
+            due("the larger one", x.grow(0), 1);
+            due("its key", x.key(5, 4), 1);
+            due("the smaller one", x.grow(1), 1);
+        }
+        for (int i = 0; i < 6; i++) {
+            due("its side", x.side(i, 0, 1), 2);
+            due("its key", x.key(i, 1), 1);
+            due("nothing of the other key", x.key(i, 4), 0);
+            for (int k = 3; k <= 8; k++) due("nothing of the other points", x.point(i, k), NONE);
+            dueMonomial(x, i, 0, i + 1);
+        }
     }
 
     private static void factorsOfLevelNought() {
@@ -327,6 +348,61 @@ public final class TreeEdgesTest extends Checks {
         due("no other knot", x.tree(0), 2);
     }
 
+    private static void headOfAPart() {
+        says(18, "its HEAD: of these the MONOMIAL of least VALUE; its RESIDUE: of the NUMBER by p^s");
+        // q^2 and a part, with q = x^2 - 3: 9 x has the VALUE 5/2, 27 has 3, 27 x has 7/2
+        TypesAtPrime x = grown(3, "x^4-6*x^2+9*x+36");
+        dueText("9 x and 27", spelled(x), "4.1");
+        duePoints(x, 1, 5, NONE, 4);
+        dueSide(x, 1, 0, 0, 2, 1, 2, 1, 5);
+        x = grown(3, "x^4-6*x^2+27*x+36");
+        dueText("27 x and 27", spelled(x), "2.2");
+        duePoints(x, 1, 6, NONE, 4);
+        dueMonomial(x, 1, 0, 1, 1);
+        dueResidual(x, 1, 0, 1, 0, 1);
+        x = grown(3, "x^4-6*x^2+27*x+63");
+        dueText("27 x and 54", spelled(x), "2.1+2.1");
+        dueResidual(x, 1, 0, 2, 0, 1);
+        // 3 x q and 9 q: 3 x has the VALUE 3/2, 9 has 2
+        x = grown(3, "x^4+3*x^3+3*x^2-9*x-18+54");
+        duePoints(x, 1, 6, 5, 4);
+        dueResidual(x, 1, 0, 2, 1, 1);
+        dueText("3 x q, 9 q and 54", spelled(x), "2.2");
+        // (q^2 and 27 x and 54)(x - 1): in front of q^2 stands x - 1, whose HEAD is -1
+        x = grown(3, "x^5-x^4-6*x^3+33*x^2+36*x-63");
+        dueText("x - 1", spelled(x), "2.1+2.1+1.1");
+        duePoints(x, 1, 6, 8, 4);
+        dueResidual(x, 1, 0, 1, 0, 2);
+        says(18, "a sum of NUMBERS times q_1^(t_1) .. q_(r-1)^(t_(r-1))");
+        // the third one above with x - 1 for x: its part is 27 x and 27, but 27 (x - 1) and 54
+        x = grown(3, "x^4-4*x^3+35*x+31");
+        dueText("27 (x - 1) and 54", spelled(x), "2.1+2.1");
+        duePoints(x, 1, 6, NONE, 4);
+        dueResidual(x, 1, 0, 2, 0, 1);
+    }
+
+    private static void keysOfKeys() {
+        says(17, "the KEY q_r^(e_r) less c times P_r (as a polynomial, in NUMBERS)");
+        // (q^2 - 9 x)^2 with q = x^2 - 3
+        TypesAtPrime x = grown(3, "x^8-12*x^6-18*x^5+54*x^4+108*x^3-27*x^2-162*x+81");
+        dueText("spelling", spelled(x), "???8");
+        duePoints(x, 1, 10, 10, 9, NONE, 8);
+        dueMonomial(x, 1, 0, 2, 1);
+        long[] key = {9, 387420489 - 9, 387420489 - 6, 0, 1, 0, 0, 0, 0};
+        for (int k = 0; k <= 8; k++) due("key at " + k, x.key(2, k), key[k]);
+        dueKnot(x, 2, 3, 2, 4, 0, 0, 1, 2);
+        dueLeaf(x, 0, 4, 0, 0, 8, 2);
+        // q^2 and 3 x q and 54 with q = x^2 - 6, for which c_1 is 2; then q - 3 x
+        x = grown(3, "x^4+3*x^3-12*x^2-18*x+90");
+        dueText("spelling", spelled(x), "4.1");
+        duePoints(x, 1, 6, 5, 4);
+        dueResidual(x, 1, 0, 2, 2, 2);
+        key = new long[] {387420489 - 6, 387420489 - 3, 1, 0, 0, 0, 0, 0, 0};
+        for (int k = 0; k <= 8; k++) due("key at " + k, x.key(2, k), key[k]);
+        duePoints(x, 2, 7, 7, 6);
+        dueSide(x, 2, 0, 0, 2, 1, 2, 1, 7);
+    }
+
     private static void exponentsTooLarge() {
         says(20, "as long as t_k is e_k or more: e_k is taken off it, and it is multiplied by P_k and by the RESIDUE c_k");
         // with q = x^2 - 6, for which c_1 is 2: q^3 + 18 q^2 + 108 q + 243
@@ -421,6 +497,8 @@ public final class TreeEdgesTest extends Checks {
         says(16, "no border ahead of the first CORNER");
         dueIndex(3, "x^2-27*x", 3);
         dueIndex(3, "x^3-27*x^2", 3);
+        due("from (1, 3) to (4, 0)", grown(3, "x^4-27*x").knot(0, 4), 6);
+        due("from (1, 9) to (4, 0)", grown(2, "x^4-512*x").knot(0, 4), 18);
         dueIndex(3, "x^2", 0);
         says(16, "y above the w of the last CORNER");
         TypesAtPrime x = grown(3, "x^6-27");
@@ -463,8 +541,12 @@ public final class TreeEdgesTest extends Checks {
         due("none", grown(2, "x^8+16*x^4+64").tree(4), 0);
         due("decided", grown(2, "x^5-16*x^4-64*x^3-2*x^2+32*x+128").tree(4), 3);
         due("exact", grown(3, "x^6-27").tree(4), 2);
+        due("one leaf", grown(5, "x^8-5").tree(4), 8);
+        // x (x^2 + 2 x + 4)^2
+        due("exact alone", grown(2, "x^5+4*x^4+12*x^3+16*x^2+16*x").tree(4), 1);
         says(15, "5 the greatest level of a KNOT (0: there is none)");
         due("none", grown(3, "x").tree(5), 0);
+        due("one knot", grown(3, "x^2-3").tree(5), 1);
         due("not the last one's", grown(3, "x^5-11*x^4+17*x^3+59*x^2-84*x+18").tree(5), 2);
         says(15, "BAD; NONE: there is no TREE");
         TypesAtPrime x = grown(3, "x"), none = new TypesAtPrime();

@@ -613,9 +613,9 @@ public final class PolynomialEdgesTest extends Checks {
 
     private static void expansionPlaces() {
         says(12, "a_i (i 0 .. 8); x^k (k 0 .. 8); each a_i of lesser DEGREE than g");
-        TypesAtPrime x = new TypesAtPrime();
-        read(x, 0, "x^8+2*x^7+3*x^6+4*x^5+5*x^4+6*x^3+7*x^2+8*x+9");
         for (int degree = 1; degree <= 8; degree++) {
+            TypesAtPrime x = new TypesAtPrime();
+            read(x, 0, "x^8+2*x^7+3*x^6+4*x^5+5*x^4+6*x^3+7*x^2+8*x+9");
             read(x, 1, "x^" + degree);
             for (int i = 0; i <= 8; i++) {
                 for (int k = 0; k <= 8; k++) {

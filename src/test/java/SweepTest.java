@@ -24,7 +24,7 @@ public final class SweepTest {
     /** Those that are asked only; all others may change something when they do not refuse. */
     private static final List<String> ASKED = List.of("at", "told", "worth", "expansion", "factor", "tree", "knot", "key", "point", "side", "residual", "monomial", "leaf", "spelling",
         "corner", "slope", "whyNot", "item", "count");
-    private static final int TOGETHER = 120;
+    private static final int TOGETHER = 60;
 
     private static final List<Method[]> calls = new ArrayList<>();
     private static int wrong = 0;

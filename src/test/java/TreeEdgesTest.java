@@ -418,6 +418,15 @@ public final class TreeEdgesTest extends Checks {
         dueMonomial(x, 1, 1, 1, 1);
         // the square of 3 x is 9 x^2, and that 27 and the residue 2
         dueResidual(x, 1, 1, 1, 0, 2);
+        // through two levels: q^2 and 243 x with q = (x^2 - 6)^2 - 9 x, for which c_1 is 2 and c_2 is 1
+        x = grown(3, "x^8-24*x^6-18*x^5+216*x^4+216*x^3-783*x^2-405*x+1296");
+        dueText("spelling", spelled(x), "4.1+4.1");
+        duePoints(x, 2, 22, NONE, 20);
+        dueSide(x, 2, 0, 0, 2, 2, 1, 2, 11);
+        dueMonomial(x, 2, 0, 1, 1, 1);
+        // the square of 3 x (x^2 - 6) is 9 x^2 times 9 x, and that 243 x and the residue 2
+        dueResidual(x, 2, 0, 1, 0, 2);
+        due("12, 2 and 1", x.tree(2), 15);
     }
 
     private static void hardBelowAKnot() {
